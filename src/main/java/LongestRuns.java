@@ -161,17 +161,12 @@ public final class LongestRuns {
         if (!isProgram(p)) {
             return UNKNOWN;
         }
-        Text text = board.textOf(p);
-        switch (what) {
-            case 0:
-                return spread.worst(text, board.setting(MISS), board.setting(HELD));
-            case 1:
-                return spread.best(text);
-            case 2:
-                return spread.ends(text);
-            default:
-                return OUTSIDE;
+        if (what < 0 || what > 2) {
+            return OUTSIDE;
         }
+        Text text = board.textOf(p);
+        int cost = spread.costOf(text, board.setting(MISS), board.setting(HELD), what == 0);
+        return what == 2 ? spread.ends() : cost;
     }
 
     public int row(int p, int i) {
@@ -270,7 +265,8 @@ public final class LongestRuns {
     public int late(int what) {
         switch (what) {
             case 0:
-                return tasks.lateOnes(board.setting(MISS));
+                tasks.weigh(board.setting(MISS));
+                return tasks.lateOnes();
             case 1:
                 return tasks.greatestMiss();
             default:
@@ -421,43 +417,58 @@ public final class LongestRuns {
         }
     }
 
-    /** A PROGRAM: its NODES as they are written. */
+    /** A PROGRAM: its NODES as they are written; behind them there is nothing. */
     private static final class Text {
-        int count;
+        int count = 1;
         private final int[] signs = new int[MOST_SIGNS];
         private final int[] sizes = new int[MOST_SIGNS];
+        private final int[] lines = new int[MOST_SIGNS];
 
         Text() {
-            signs[0] = '-';
-            sizes[0] = 1;
-            count = 1;
+            for (int i = 0; i < MOST_SIGNS; i++) {
+                signs[i] = '-';
+                sizes[i] = 1;
+            }
         }
 
         /** The signs must be those of one text without a FAULT. */
         void take(int[] from, int howMany) {
-            count = Math.min(Math.min(howMany, from.length), signs.length);
-            for (int i = count - 1; i >= 0; i--) {
-                signs[i] = from[i];
+            count = Math.min(howMany, from.length);
+            // Parts stand behind their NODE: so from the last one on all of them are at hand.
+            for (int i = MOST_SIGNS - 1; i >= 0; i--) {
+                signs[i] = i < count ? from[i] : '-';
                 sizes[i] = 1;
+                lines[i] = isLineSign(signs[i]) ? 1 << lineAt(i) : 0;
                 int part = i + 1;
                 for (int k = partsOf(signs[i]); k > 0; k--) {
                     int size = sizeAt(part);
                     sizes[i] += size;
+                    lines[i] |= linesWithin(part);
                     part += size;
                 }
             }
         }
 
         boolean has(int node) {
-            return node >= 0 && node < count && node < signs.length;
+            return node >= 0 && node < count;
         }
 
         int signAt(int node) {
-            return has(node) ? signs[node] : '-';
+            return node >= 0 && node < MOST_SIGNS ? signs[node] : '-';
         }
 
+        /** How many NODES it has with all within. */
         int sizeAt(int node) {
-            return has(node) ? sizes[node] : 1;
+            return node >= 0 && node < MOST_SIGNS ? sizes[node] : 1;
+        }
+
+        /** LINES that it fetches anywhere, as bits. */
+        int linesWithin(int node) {
+            return node >= 0 && node < MOST_SIGNS ? lines[node] : 0;
+        }
+
+        int allLines() {
+            return lines[0];
         }
 
         int firstPart(int node) {
@@ -472,34 +483,19 @@ public final class LongestRuns {
             return isLineSign(signAt(node));
         }
 
-        /** The LINE of a FETCH; 0 for others, which no caller asks. */
+        /** The LINE of a FETCH: the codes of '0' to '7' end in these bits. */
         int lineAt(int node) {
-            return isFetchAt(node) ? signAt(node) - '0' : 0;
+            return signAt(node) & 7;
         }
 
         /** How many times a LOOP may be done; 0: it is no LOOP. */
         int timesAt(int node) {
             int sign = signAt(node);
-            return partsOf(sign) == 1 ? sign - 'b' + 2 : 0;
+            return sign >= 'b' && sign <= 'd' ? sign - 'b' + 2 : 0;
         }
 
         boolean isLoopAround(int loop, int node) {
             return timesAt(loop) > 0 && loop < node && node < loop + sizeAt(loop);
-        }
-
-        int linesWithin(int node) {
-            int lines = 0;
-            int end = node + sizeAt(node);
-            for (int i = node; i < end && has(i); i++) {
-                if (isFetchAt(i)) {
-                    lines |= 1 << lineAt(i);
-                }
-            }
-            return lines;
-        }
-
-        int allLines() {
-            return linesWithin(0);
         }
     }
 
@@ -627,6 +623,7 @@ public final class LongestRuns {
         private static final int MOST_LOOKS = 65;
         int count;
         private int held;
+        private int fetched;
         private final int[] setOfLine = new int[LINES];
         private final int[] rankOfLine = new int[LINES];
         private final int[] room = new int[MOST_SETS];
@@ -639,12 +636,13 @@ public final class LongestRuns {
 
         void lay(Board board, int heldLines, int crowd) {
             held = heldLines;
+            fetched = crowd;
             for (int set = 0; set < MOST_SETS; set++) {
                 room[set] = board.setting(WAYS);
                 members[set] = 0;
             }
             for (int line = 0; line < LINES; line++) {
-                enrol(line, setOf(line, board.setting(SETS)), isIn(crowd, line));
+                enrol(line, setOf(line, board.setting(SETS)));
             }
             count = 1;
             for (int set = 0; set < MOST_SETS; set++) {
@@ -659,7 +657,7 @@ public final class LongestRuns {
             }
         }
 
-        private void enrol(int line, int set, boolean isFetched) {
+        private void enrol(int line, int set) {
             if (line < 0 || line >= LINES || set < 0 || set >= MOST_SETS) {
                 return;
             }
@@ -667,7 +665,7 @@ public final class LongestRuns {
             rankOfLine[line] = -1;
             if (isIn(held, line)) {
                 room[set]--;
-            } else if (isFetched) {
+            } else if (isIn(fetched, line)) {
                 rankOfLine[line] = members[set];
                 members[set]++;
             }
@@ -735,26 +733,22 @@ public final class LongestRuns {
             return look > 0 && n > 0 ? (look - 1) % n : -1;
         }
 
-        private int lookOf(int shelf, int set) {
-            int by = stride[set];
-            int over = looks[set];
-            return by > 0 && over > 0 ? shelf / by % over : 0;
-        }
-
         /** A FETCH: twice the number of the SHELF behind it, and 1 more if it hits. */
         int stepOf(int line, int shelf) {
             if (line < 0 || line >= LINES) {
                 return 2 * shelf;
             }
-            int look = lookOf(shelf, setOfLine[line]);
+            int by = stride[setOfLine[line]];
+            int over = looks[setOfLine[line]];
+            int look = by > 0 && over > 0 ? shelf / by % over : 0;
             return look >= 0 && look < MOST_LOOKS ? 2 * shelf + moves[line][look] : 2 * shelf;
         }
 
-        /** The LINES of a SHELF as bits, HELD ones too. */
+        /** The LINES of a SHELF as bits, HELD ones too: those of which a FETCH would hit. */
         int linesOn(int shelf) {
             int lines = held;
             for (int line = 0; line < LINES; line++) {
-                if (lies(line, lookOf(shelf, setOfLine[line]))) {
+                if (isIn(fetched, line) && (stepOf(line, shelf) & 1) == 1) {
                     lines |= 1 << line;
                 }
             }
@@ -802,7 +796,7 @@ public final class LongestRuns {
             int second = text.secondPart(node);
             switch (partsOf(text.signAt(node))) {
                 case 1:
-                    int times = nextDigit() % (text.timesAt(node) + 1);
+                    int times = howOften(text.timesAt(node) + 1);
                     for (int i = 0; i < times; i++) {
                         go(first, around + 1);
                     }
@@ -820,6 +814,11 @@ public final class LongestRuns {
                         fetch(text.lineAt(node));
                     }
             }
+        }
+
+        private int howOften(int ways) {
+            int digit = nextDigit();
+            return ways > 0 ? digit % ways : 0;
         }
 
         private int nextDigit() {
@@ -840,37 +839,35 @@ public final class LongestRuns {
 
     /** SHELVES that RUNS lead to, with what these cost: the most, or the least of them. */
     private static final class Reached {
-        private static final int NOT_YET = -1;
         int count;
         private final int[] shelves = new int[MOST_SHELVES];
         private final int[] costs = new int[MOST_SHELVES];
 
-        Reached() {
-            for (int i = 0; i < costs.length; i++) {
-                costs[i] = NOT_YET;
-            }
-        }
+        // By SHELF: at which place it stands above, from 1 on; 0: not there.
+        private final int[] places = new int[MOST_SHELVES];
 
         void clear() {
-            for (int i = 0; i < count && i < shelves.length; i++) {
+            for (int i = 0; i < count && i < MOST_SHELVES; i++) {
                 int shelf = shelves[i];
-                if (isShelf(shelf)) {
-                    costs[shelf] = NOT_YET;
+                if (shelf >= 0 && shelf < MOST_SHELVES) {
+                    places[shelf] = 0;
                 }
             }
             count = 0;
         }
 
         void add(int shelf, int cost, boolean isMost) {
-            if (!isShelf(shelf)) {
+            if (shelf < 0 || shelf >= MOST_SHELVES) {
                 return;
             }
-            if (costs[shelf] == NOT_YET && count < shelves.length) {
+            int at = places[shelf] - 1;
+            if (at >= 0 && at < MOST_SHELVES) {
+                costs[at] = isMost ? Math.max(costs[at], cost) : Math.min(costs[at], cost);
+            } else if (count < MOST_SHELVES) {
                 shelves[count] = shelf;
+                costs[count] = cost;
                 count++;
-                costs[shelf] = cost;
-            } else if (isMost ? cost > costs[shelf] : cost < costs[shelf]) {
-                costs[shelf] = cost;
+                places[shelf] = count;
             }
         }
 
@@ -881,16 +878,11 @@ public final class LongestRuns {
         }
 
         int shelfAt(int i) {
-            return i >= 0 && i < count && i < shelves.length ? shelves[i] : 0;
+            return i >= 0 && i < MOST_SHELVES ? shelves[i] : 0;
         }
 
         int costAt(int i) {
-            int shelf = shelfAt(i);
-            return isShelf(shelf) ? costs[shelf] : NOT_YET;
-        }
-
-        private static boolean isShelf(int shelf) {
-            return shelf >= 0 && shelf < MOST_SHELVES;
+            return i >= 0 && i < MOST_SHELVES ? costs[i] : 0;
         }
     }
 
@@ -916,18 +908,23 @@ public final class LongestRuns {
             }
         }
 
-        int worst(Text text, int miss, int held) {
-            pour(text, miss, held, true);
-            return outcome();
+        /** WORST or BEST. Behind it end has the SHELVES at the end, whichever it was. */
+        int costOf(Text text, int miss, int held, boolean isMost) {
+            this.text = text;
+            this.miss = miss;
+            this.isMost = isMost;
+            shelves.lay(board, held, text.allLines());
+            start.clear();
+            start.add(0, 0, isMost);
+            flow(0, 0, start, end);
+            int cost = end.costAt(0);
+            for (int i = 1; i < end.count; i++) {
+                cost = isMost ? Math.max(cost, end.costAt(i)) : Math.min(cost, end.costAt(i));
+            }
+            return cost;
         }
 
-        int best(Text text) {
-            pour(text, board.setting(MISS), board.setting(HELD), false);
-            return outcome();
-        }
-
-        int ends(Text text) {
-            pour(text, board.setting(MISS), board.setting(HELD), true);
+        int ends() {
             return end.count;
         }
 
@@ -936,11 +933,11 @@ public final class LongestRuns {
             int crowd = text.allLines();
             int byMiss = board.setting(MISS);
             fastLines = 0;
-            fastCost = worst(text, byMiss, 0);
+            fastCost = costOf(text, byMiss, 0, true);
             for (int held = 1; held <= ALL_LINES; held++) {
                 if ((held & ~crowd) == 0
                         && mayBeHeld(board.setting(SETS), board.setting(WAYS), held)) {
-                    compare(held, worst(text, byMiss, held));
+                    compare(held, costOf(text, byMiss, held, true));
                 }
             }
         }
@@ -952,24 +949,6 @@ public final class LongestRuns {
                 fastLines = held;
                 fastCost = cost;
             }
-        }
-
-        private void pour(Text text, int miss, int held, boolean isMost) {
-            this.text = text;
-            this.miss = miss;
-            this.isMost = isMost;
-            shelves.lay(board, held, text.allLines());
-            start.clear();
-            start.add(0, 0, isMost);
-            flow(0, 0, start, end);
-        }
-
-        private int outcome() {
-            int cost = end.costAt(0);
-            for (int i = 1; i < end.count; i++) {
-                cost = isMost ? Math.max(cost, end.costAt(i)) : Math.min(cost, end.costAt(i));
-            }
-            return cost;
         }
 
         private void flow(int node, int around, Reached from, Reached to) {
@@ -993,12 +972,13 @@ public final class LongestRuns {
                 case '-':
                     to.addAll(from, isMost);
                     break;
+                case 'b':
+                case 'c':
+                case 'd':
+                    repeat(node, around, from, to);
+                    break;
                 default:
-                    if (text.isFetchAt(node)) {
-                        fetch(text.lineAt(node), from, to);
-                    } else {
-                        repeat(node, around, from, to);
-                    }
+                    fetch(text.lineAt(node), from, to);
             }
         }
 
@@ -1352,7 +1332,7 @@ public final class LongestRuns {
         void study(Text text) {
             this.text = text;
             ages.trace(text);
-            for (int node = 0; text.has(node) && node < sorts.length; node++) {
+            for (int node = 0; node < text.count && node < sorts.length; node++) {
                 sorts[node] = text.isFetchAt(node) ? sortOf(node) : ALWAYS;
             }
         }
@@ -1367,7 +1347,7 @@ public final class LongestRuns {
 
         int closer() {
             int cost = costOf(1);
-            for (int loop = 0; text.has(loop); loop++) {
+            for (int loop = 0; loop < text.count; loop++) {
                 int lines = Integer.bitCount(onceLinesOf(loop));
                 cost += lines * (board.setting(MISS) - 1) * timesComeTo(loop);
             }
@@ -1388,11 +1368,11 @@ public final class LongestRuns {
 
         /** The outermost LOOP around a FETCH with ROOM for all LINES of its SET; -1: none. */
         private int loopThatKeeps(int node) {
-            int line = text.lineAt(node);
-            int mates = board.freeMates(line);
+            int mates = board.freeMates(text.lineAt(node));
+            int room = board.roomFor(text.lineAt(node));
             for (int loop = 0; loop < node; loop++) {
                 if (text.isLoopAround(loop, node)
-                        && Integer.bitCount(text.linesWithin(loop) & mates) <= board.roomFor(line)) {
+                        && Integer.bitCount(text.linesWithin(loop) & mates) <= room) {
                     return loop;
                 }
             }
@@ -1486,12 +1466,12 @@ public final class LongestRuns {
             return lines * byMiss;
         }
 
-        /** Must come ahead of timeOf. */
+        /** Must come ahead of timeOf and lateOnes. */
         void weigh(int byMiss) {
             miss = byMiss;
             for (int p = 0; p < PROGRAMS; p++) {
                 worst[p] = board.isTask(p)
-                        ? spread.worst(board.textOf(p), byMiss, board.setting(HELD)) : 0;
+                        ? spread.costOf(board.textOf(p), byMiss, board.setting(HELD), true) : 0;
             }
         }
 
@@ -1527,8 +1507,7 @@ public final class LongestRuns {
         }
 
         /** TASKS that are LATE, as bits. */
-        int lateOnes(int byMiss) {
-            weigh(byMiss);
+        int lateOnes() {
             int ones = 0;
             for (int p = 0; p < PROGRAMS; p++) {
                 if (board.isTask(p) && timeOf(p) == NO) {
@@ -1544,7 +1523,8 @@ public final class LongestRuns {
             int bad = GREATEST_MISS + 1;
             for (int i = 0; i < GREATEST_MISS && bad - good > 1; i++) {
                 int middle = (good + bad) / 2;
-                if (lateOnes(middle) == 0) {
+                weigh(middle);
+                if (lateOnes() == 0) {
                     good = middle;
                 } else {
                     bad = middle;

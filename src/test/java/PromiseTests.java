@@ -510,6 +510,8 @@ public final class PromiseTests {
         x.shelf(3, 0);
         x.shelf(0, 4);
         fastIs("16 four sets", x, 0, 1 + 4 + 16, 4 * 3);
+        Check.write(x, 3, "d;;;01;23;;45;67");
+        fastIs("16 all lines", x, 3, 255, 4 * 8);
         x.shelf(1, 1);
         fastIs("16 one way", x, 0, 1 + 4, 4 * 12);
         Check.write(x, 0, "?0;01");

@@ -1,0 +1,57 @@
+import java.nio.charset.StandardCharsets;
+import java.nio.file.Files;
+import java.nio.file.Path;
+import java.util.regex.Matcher;
+import java.util.regex.Pattern;
+
+/** Rules of LANGUAGE.md that can be seen in the class's text: the first argument is its file. */
+public final class RulesTests {
+    private static final String[] FORBIDDEN = {"->", "::", "\\bimport\\b", "\\bpackage\\b", "\\bthrow\\b",
+        "\\bthrows\\b", "\\bcatch\\b", "\\btry\\b", "\\bfinally\\b", "\\bsynchronized\\b", "\\bassert\\b",
+        "\\bwhile\\b", "\\bdouble\\b", "\\bfloat\\b", "Exact\\b", "\\bprotected\\b", "\\bvar\\b",
+        "\\bObject\\b", "\\bSystem\\b"};
+    private static final Pattern HEAD = Pattern.compile(
+            "^(?: {4}| {8})(?:(?:public|private|static|final) )*(?:[\\w\\[\\]]+ )?(\\w+)\\((.*)\\) \\{$");
+
+    public static void main(String[] args) throws Exception {
+        Path file = Path.of(args.length > 0 ? args[0] : "src/main/java/LongestRuns.java");
+        String[] lines = Files.readString(file, StandardCharsets.US_ASCII).split("\n");
+        int classes = 0;
+        for (int i = 0; i < lines.length; i++) {
+            String code = codeOf(lines[i]);
+            Check.holds("line " + (i + 1) + " is short", lines[i].length() <= 100);
+            for (String word : FORBIDDEN) {
+                Check.holds("line " + (i + 1) + " has no " + word, !Pattern.compile(word).matcher(code).find());
+            }
+            Matcher head = HEAD.matcher(lines[i]);
+            if (head.matches() && !code.trim().startsWith("if")) {
+                int parameters = head.group(2).isEmpty() ? 0 : head.group(2).split(",").length;
+                Check.holds("parameters at " + (i + 1), parameters <= 7);
+                Check.holds("length of the method at " + (i + 1), lengthFrom(lines, i) <= 60);
+            }
+            boolean isStatic = code.matches("^ {4,8}(private|public) static (?!.*\\().*");
+            Check.holds("static field at " + (i + 1), !isStatic || code.contains(" final "));
+            classes += code.matches(".*\\bclass \\w+ \\{$") ? 1 : 0;
+        }
+        Check.holds("classes: " + classes, classes >= 1 && classes <= 12);
+        Check.end();
+    }
+
+    /** Without comments: signs in quotes have none of the forbidden words. */
+    private static String codeOf(String line) {
+        String trimmed = line.trim();
+        if (trimmed.startsWith("*") || trimmed.startsWith("/*") || trimmed.startsWith("//")) {
+            return "";
+        }
+        return line;
+    }
+
+    private static int lengthFrom(String[] lines, int head) {
+        String end = lines[head].replaceAll("\\S.*", "") + "}";
+        int i = head;
+        while (i < lines.length && !lines[i].equals(end)) {
+            i++;
+        }
+        return i - head + 1;
+    }
+}

@@ -22,26 +22,27 @@ public final class ModelTests {
         Check.end();
     }
 
-    /** A text of the grammar; wide ones have more parts, lean ones fewer lines. */
-    static String textBy(Random by, int around, int lines) {
-        int kind = around == 4 ? by.nextInt(7) : by.nextInt(20);
+    /** A text of the grammar; a wide one has no ends around fewer than so many others. */
+    private static String textBy(Random by, int around, int lines, int wide) {
+        int kind = around == 4 ? by.nextInt(7) : around < wide ? 7 + by.nextInt(13) : by.nextInt(20);
         if (kind == 0) {
             return "-";
         }
-        if (kind < 7 && (around > 0 || by.nextInt(8) == 0 || kind < 2)) {
+        if (kind < 7) {
             return "" + (char) ('0' + by.nextInt(lines));
         }
         if (kind < 11) {
-            return "bcd".charAt(by.nextInt(3)) + textBy(by, around + 1, lines);
+            return "bcd".charAt(by.nextInt(3)) + textBy(by, around + 1, lines, wide);
         }
         String sign = kind < 16 ? ";" : "?";
-        return sign + textBy(by, around + 1, lines) + textBy(by, around + 1, lines);
+        return sign + textBy(by, around + 1, lines, wide) + textBy(by, around + 1, lines, wide);
     }
 
     static String shortTextBy(Random by, int most) {
         int lines = 1 + by.nextInt(8);
+        int wide = by.nextInt(5);
         for (int i = 0; i < 1000; i++) {
-            String text = textBy(by, 0, lines);
+            String text = textBy(by, 0, lines, wide);
             if (text.length() <= most) {
                 return text;
             }

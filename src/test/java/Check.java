@@ -42,6 +42,13 @@ final class Check {
         }
     }
 
+    /** SETS, WAYS, MISS and HELD LINES of an object that holds none yet. */
+    static void shelve(LongestRuns x, int... settings) {
+        for (int what = 0; what < settings.length; what++) {
+            holds("shelf(" + what + ", " + settings[what] + ")", x.shelf(what, settings[what]) >= 0);
+        }
+    }
+
     static void choose(LongestRuns x, int... digits) {
         x.forget();
         for (int digit : digits) {
@@ -58,7 +65,8 @@ final class Check {
         all.append(x.fault()).append(' ');
         for (int p = 0; p < 4; p++) {
             all.append('|');
-            for (int node = 0; node < 30 && x.node(p, node, 0) >= 0; node++) {
+            int nodes = x.told(20 + p);
+            for (int node = 0; node < nodes; node++) {
                 all.append((char) x.node(p, node, 0)).append(x.node(p, node, 1));
             }
             for (int what = 0; what < 5; what++) {

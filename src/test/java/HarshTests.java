@@ -24,7 +24,7 @@ public final class HarshTests {
         refusedCallsChangeNothing(calls);
         askingChangesNothing(calls);
         everyTextOfThreeSigns();
-        callsMakeNothing();
+        callsFitInOneRoom();
         Check.end();
     }
 
@@ -92,11 +92,14 @@ public final class HarshTests {
         Random by = new Random(seed);
         LongestRuns x = new LongestRuns();
         Method[] all = calls.values().toArray(new Method[0]);
-        for (int i = 0; i < 400; i++) {
+        // No more than 512 calls are promised: a text may take 32 of them.
+        for (int made = 0; made < 480; made++) {
             if (by.nextInt(10) == 0) {
-                Check.say(x, ModelTests.shortTextBy(by, 30));
+                String text = ModelTests.shortTextBy(by, 29);
+                Check.say(x, text);
                 x.program(by.nextInt(4));
                 x.wipe();
+                made += text.length() + 2;
             }
             int[] some = {anyNumber(by), anyNumber(by), anyNumber(by), anyNumber(by)};
             Method method = all[by.nextInt(all.length)];
@@ -143,9 +146,9 @@ public final class HarshTests {
     private static void askingChangesNothing(TreeMap<String, Method> calls) {
         String[] asking = {"fault", "node", "run", "most", "row", "age", "sort", "bound", "fast",
             "crowd", "breaks", "done", "late", "told", "image"};
-        LongestRuns x = busy();
-        String state = Check.stateOf(x);
         for (String name : asking) {
+            LongestRuns x = busy();
+            String state = Check.stateOf(x);
             for (int i = 0; i < 256; i++) {
                 call(x, calls.get(name), new int[] {i & 3, i >> 2 & 7, i >> 5 & 1, i >> 6 & 3});
             }
@@ -166,23 +169,18 @@ public final class HarshTests {
         }
     }
 
-    /** All that a run of calls makes must fit in one room: so only constructors make anything. */
-    private static void callsMakeNothing() {
+    /** All that an object and its 512 calls make must fit in one room of 7.3 million elements. */
+    private static void callsFitInOneRoom() {
         com.sun.management.ThreadMXBean threads =
                 (com.sun.management.ThreadMXBean) ManagementFactory.getThreadMXBean();
-        LongestRuns x = busy();
-        askAll(x);
         long before = threads.getCurrentThreadAllocatedBytes();
+        int sum = 0;
+        for (int i = 0; i < 2; i++) {
+            sum += askAll(busy());
+        }
         long after = threads.getCurrentThreadAllocatedBytes();
-        long own = after - before;
-        before = threads.getCurrentThreadAllocatedBytes();
-        int sum = askAll(x);
-        after = threads.getCurrentThreadAllocatedBytes();
-        Check.holds("calls make " + (after - before - own) + " bytes, " + sum, after - before - own < 64);
-        before = threads.getCurrentThreadAllocatedBytes();
-        x = new LongestRuns();
-        after = threads.getCurrentThreadAllocatedBytes();
-        Check.holds("an object is " + (after - before) + " bytes", after - before < 200000);
+        Check.holds("two objects and 500 calls make " + (after - before) + " bytes, " + sum,
+                after - before < 4L * 7300000);
     }
 
     private static int askAll(LongestRuns x) {

@@ -55,9 +55,10 @@ public final class ModelTests {
         LongestRuns x = new LongestRuns();
         Model model = new Model();
         StringBuilder calls = new StringBuilder();
-        for (int i = 0; i < 120; i++) {
+        // No more than 512 calls are promised: a text may take 33 of them, the end takes 25.
+        for (int made = 0; made < 430; made++) {
             if (by.nextInt(8) == 0) {
-                writeSome(by, x, model, calls);
+                made += writeSome(by, x, model, calls);
             }
             String call = CALLS[by.nextInt(CALLS.length)];
             if (call.equals("fast") && by.nextInt(4) != 0) {
@@ -72,7 +73,8 @@ public final class ModelTests {
         }
     }
 
-    private static void writeSome(Random by, LongestRuns x, Model model, StringBuilder calls) {
+    /** Answers how many calls it took. */
+    private static int writeSome(Random by, LongestRuns x, Model model, StringBuilder calls) {
         String text = shortTextBy(by, 30);
         if (by.nextInt(6) == 0) {
             text = text.substring(0, by.nextInt(text.length())) + (char) (33 + by.nextInt(94));
@@ -87,6 +89,7 @@ public final class ModelTests {
         Check.due("fault: " + calls, x.fault(), model.fault());
         int p = by.nextInt(4);
         Check.due("program: " + calls, x.program(p), model.program(p));
+        return text.length() + 3;
     }
 
     private static int[] argumentsFor(String call, Random by) {
@@ -171,32 +174,48 @@ public final class ModelTests {
         }
     }
 
-    /** Sets up four tasks and a shelf, then asks all there is to ask. */
+    /** Four tasks and a shelf, then all there is to ask of one of them. */
     private static void studied(int seed) {
         Random by = new Random(1000000 + seed);
-        LongestRuns x = new LongestRuns();
-        Model model = new Model();
-        StringBuilder set = new StringBuilder("studied " + seed + ": ");
-        for (int i = 0; i < 4; i++) {
-            int v = i == 0 ? 1 << by.nextInt(3) : i == 1 ? 1 + by.nextInt(2)
-                    : i == 2 ? 2 + by.nextInt(19) : by.nextInt(256) & by.nextInt(256) & by.nextInt(256);
-            Check.due("shelf", x.shelf(i, v), model.shelf(i, v));
-            set.append(v).append(' ');
-        }
+        int[] shelf = {1 << by.nextInt(3), 1 + by.nextInt(2), 2 + by.nextInt(19),
+            by.nextInt(256) & by.nextInt(256) & by.nextInt(256)};
+        String[] texts = new String[4];
+        int[] periods = new int[4];
         for (int p = 0; p < 4; p++) {
-            String text = shortTextBy(by, 30);
-            model.pad = text;
-            model.program(p);
-            Check.write(x, p, text);
-            int period = by.nextInt(3) == 0 ? by.nextInt(3000) : by.nextInt(300);
-            Check.due("period", x.period(p, period), model.period(p, period));
-            set.append(text).append(' ').append(period).append(' ');
+            texts[p] = shortTextBy(by, 30);
+            periods[p] = by.nextInt(3) == 0 ? by.nextInt(3000) : by.nextInt(300);
         }
         int p = by.nextInt(4);
-        everything(set.toString() + "of " + p + " ", x, model, p);
+        String set = "studied " + seed + ": " + java.util.Arrays.toString(shelf) + " "
+                + String.join(" ", texts) + " " + java.util.Arrays.toString(periods) + " of " + p + " ";
+        Model model = modelOf(shelf, texts, periods);
+        costs(set, objectOf(shelf, texts, periods), model, p);
+        // No more than 512 calls are promised: so each half of the nodes has its own object.
+        ages(set, objectOf(shelf, texts, periods), model, p, 0);
+        ages(set, objectOf(shelf, texts, periods), model, p, 15);
     }
 
-    private static void everything(String set, LongestRuns x, Model model, int p) {
+    private static LongestRuns objectOf(int[] shelf, String[] texts, int[] periods) {
+        LongestRuns x = Check.with(texts);
+        for (int i = 0; i < 4; i++) {
+            x.shelf(i, shelf[i]);
+            x.period(i, periods[i]);
+        }
+        return x;
+    }
+
+    private static Model modelOf(int[] shelf, String[] texts, int[] periods) {
+        Model model = new Model();
+        for (int i = 0; i < 4; i++) {
+            model.pad = texts[i];
+            model.program(i);
+            model.shelf(i, shelf[i]);
+            model.period(i, periods[i]);
+        }
+        return model;
+    }
+
+    private static void costs(String set, LongestRuns x, Model model, int p) {
         for (int what = 0; what < 5; what++) {
             ask(set, x, model, "run", p, what);
             ask(set, x, model, "most", p, what);
@@ -207,18 +226,23 @@ public final class ModelTests {
         for (int i = -2; i < 22; i++) {
             ask(set, x, model, "row", p, i);
         }
-        for (int node = 0; node < 30; node++) {
-            ask(set, x, model, "sort", p, node);
-            for (int i = 0; i < 16; i++) {
-                ask(set, x, model, "age", p, node, i / 8, i % 8);
-            }
-        }
         for (int other = 0; other < 4; other++) {
             ask(set, x, model, "done", other);
+        }
+        for (int node = 0; node < 30; node++) {
+            ask(set, x, model, "sort", p, node);
         }
         ask(set, x, model, "fast", p, 0);
         ask(set, x, model, "fast", p, 1);
         ask(set, x, model, "crowd", p);
+    }
+
+    private static void ages(String set, LongestRuns x, Model model, int p, int from) {
+        for (int node = from; node < from + 15; node++) {
+            for (int i = 0; i < 16; i++) {
+                ask(set, x, model, "age", p, node, i / 8, i % 8);
+            }
+        }
     }
 
     private static void ask(String set, LongestRuns x, Model model, String call, int... some) {

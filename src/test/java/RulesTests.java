@@ -6,10 +6,12 @@ import java.util.regex.Pattern;
 
 /** Rules of LANGUAGE.md that can be seen in the class's text: the first argument is its file. */
 public final class RulesTests {
-    private static final String[] FORBIDDEN = {"->", "::", "\\bimport\\b", "\\bpackage\\b", "\\bthrow\\b",
-        "\\bthrows\\b", "\\bcatch\\b", "\\btry\\b", "\\bfinally\\b", "\\bsynchronized\\b", "\\bassert\\b",
-        "\\bwhile\\b", "\\bdouble\\b", "\\bfloat\\b", "Exact\\b", "\\bprotected\\b", "\\bvar\\b",
-        "\\bObject\\b", "\\bSystem\\b"};
+    private static final String[] FORBIDDEN = {"->", "::", "\\bpackage\\b", "\\bthrows\\b",
+        "\\bfinally\\b", "\\bsynchronized\\b", "\\bassert\\b", "Exact\\b", "\\bprotected\\b",
+        "\\bObject\\b", "\\bThrowable\\b", "\\bException\\b", "\\bError\\b",
+        "\\b(ArrayIndexOutOfBounds|NullPointer|ClassCast|NegativeArraySize|ArrayStore)Exception\\b",
+        "\\bSystem\\.(?!arraycopy)", "\\bimport (?!java\\.util\\.(ArrayList|List|Arrays|Iterator|"
+        + "NoSuchElementException);)"};
     private static final Pattern HEAD = Pattern.compile(
             "^(?: {4}| {8})(?:(?:public|private|static|final) )*(?:[\\w\\[\\]]+ )?(\\w+)\\((.*)\\) \\{$");
 
@@ -19,21 +21,21 @@ public final class RulesTests {
         int classes = 0;
         for (int i = 0; i < lines.length; i++) {
             String code = codeOf(lines[i]);
-            Check.holds("line " + (i + 1) + " is short", lines[i].length() <= 100);
             for (String word : FORBIDDEN) {
-                Check.holds("line " + (i + 1) + " has no " + word, !Pattern.compile(word).matcher(code).find());
+                boolean isThere = Pattern.compile(word).matcher(code).find();
+                Check.holds("line " + (i + 1) + " has no " + word, !isThere);
             }
             Matcher head = HEAD.matcher(lines[i]);
             if (head.matches() && !code.trim().startsWith("if")) {
                 int parameters = head.group(2).isEmpty() ? 0 : head.group(2).split(",").length;
                 Check.holds("parameters at " + (i + 1), parameters <= 7);
-                Check.holds("length of the method at " + (i + 1), lengthFrom(lines, i) <= 60);
+                Check.holds("length of the method at " + (i + 1), lengthFrom(lines, i) <= 65);
             }
             boolean isStatic = code.matches("^ {4,8}(private|public) static (?!.*\\().*");
             Check.holds("static field at " + (i + 1), !isStatic || code.contains(" final "));
             classes += code.matches(".*\\bclass \\w+ \\{$") ? 1 : 0;
         }
-        Check.holds("classes: " + classes, classes >= 1 && classes <= 12);
+        Check.holds("classes: " + classes, classes >= 1 && classes <= 14);
         Check.end();
     }
 

@@ -21,6 +21,8 @@ public final class AgeEdgesTests {
         fetchWithoutRoom();
         behindAChoice();
         choiceOfNothing();
+        bothTextsBeginAlike();
+        nothingIsNoFetch();
         behindALoopDoneNoTimes();
         loopAgainAndAgain();
         loopWithinALoop();
@@ -207,6 +209,28 @@ public final class AgeEdgesTests {
             LongestRuns x = Check.with(text);
             agesAre(text + " must", x, 6, MUST, 0, 1, 2, 2);
             agesAre(text + " may", x, 6, MAY, 0, 0, 2, 0);
+        }
+    }
+
+    /** What the first text of a CHOICE fetches does not lie there as the second one begins. */
+    private static void bothTextsBeginAlike() {
+        String[] texts = {"?00", "?b00", "??000", "?;000", ";2?b00"};
+        for (String text : texts) {
+            LongestRuns x = Check.with(text);
+            int last = text.length() - 1;
+            agesAre(text + " must", x, last, MUST, 0, 2);
+            agesAre(text + " may", x, last, MAY, 0, 2);
+            Check.due(text, x.sort(0, last), NEVER);
+        }
+    }
+
+    private static void nothingIsNoFetch() {
+        for (int line = 0; line < 8; line++) {
+            LongestRuns x = Check.with(";;-d-;-" + line);
+            int last = x.told(20) - 1;
+            agesAre("must", x, last, MUST, line, 2);
+            agesAre("may", x, last, MAY, line, 2);
+            Check.due("sort", x.sort(0, last), NEVER);
         }
     }
 

@@ -33,6 +33,7 @@ public final class RunEdgesTests {
         worstIsNotGreedy();
         oneShelfAtLeast();
         allShelvesOfOneSet();
+        eightLinesInOneSet();
         shelvesOfFourSets();
         unlikeByOrderInASet();
         likeInOtherOrderOfSets();
@@ -43,6 +44,9 @@ public final class RunEdgesTests {
         rowAsItWouldBeTaken();
         firstByDigits();
         fewerTimesIfAsDear();
+        rowByWhatLoopsCost();
+        rowOfTextsWithin();
+        rowOfNothingWithin();
         rowWithoutTheToldOne();
         rowOfTwenty();
         rowOfTwentyOne();
@@ -370,6 +374,19 @@ public final class RunEdgesTests {
         Check.due("room for one of seven", x.most(0, 2), 1 + 7);
     }
 
+    /** All eight LINES are fetched, 7 as the first, and again at once. */
+    private static void eightLinesInOneSet() {
+        LongestRuns x = Check.with(";;;77;01;;23;4?56", ";;;70;70;;;12;34;56");
+        x.shelf(SETS, 1);
+        Check.due("all lines", x.crowd(0), 255);
+        Check.due("7 hits once", x.run(0, 0), 10 + 1 + 6 * 10);
+        Check.due("worst", x.most(0, 0), 71);
+        Check.due("two ends", x.most(0, 2), 2);
+        Check.due("all lines", x.crowd(1), 255);
+        Check.due("7 and 0 hit once each", x.run(1, 0), 20 + 2 + 6 * 10);
+        Check.due("5 and 6 lie there", x.run(1, 4), 32 + 64);
+    }
+
     /** Of four SETS with two LINES each, two WAYS: all that four FETCHES can put there. */
     private static void shelvesOfFourSets() {
         LongestRuns x = Check.with(ANY_FOUR);
@@ -502,6 +519,49 @@ public final class RunEdgesTests {
         x.shelf(MISS, 4);
         rowIs(x, ";;02;c0;40", 0);
         rowIs(x, ";;02;d0;40", 4);
+    }
+
+    /** A CHOICE of a LOOP or of as many FETCHES: the one more or less that it may be done matters. */
+    private static void rowByWhatLoopsCost() {
+        LongestRuns x = new LongestRuns();
+        rowIs(x, "?1b0", 1, 2);
+        rowIs(x, "?;11b0", 0);
+        rowIs(x, "?;11c0", 1, 3);
+        rowIs(x, "?;1;11c0", 0);
+        rowIs(x, "?;1;11d0", 1, 4);
+        rowIs(x, "?;1;1;11d0", 0);
+        rowIs(x, "?;1;1;11c0", 0);
+        rowIs(x, "?b01", 0, 2);
+    }
+
+    private static void rowOfTextsWithin() {
+        LongestRuns x = new LongestRuns();
+        // The other LINE at the very last: it is first by digits.
+        rowIs(x, "d?01", 4, 0, 0, 0, 1);
+        rowIs(x, "b??07-", 2, 0, 0, 0, 1);
+        rowIs(x, "b;-?0-", 2, 0, 0);
+        rowIs(x, "bb?0-", 2, 2, 0, 0, 2, 0, 0);
+        // 1, then 0 twice, then 0 twice: 10, 11 and 2.
+        rowIs(x, "c?1b0", 3, 0, 1, 2, 1, 2);
+        // 1 three times: 4, then 3 and 3; with 3 once it is 2, 4 and 3.
+        x.shelf(MISS, 2);
+        rowIs(x, "c?3c1", 3, 1, 3, 1, 3, 1, 3);
+        x.shelf(MISS, 10);
+        x.shelf(WAYS, 1);
+        // 1, then 5 twice: 10 and 11, as 5 twice, then 1.
+        rowIs(x, "b?1b5", 2, 0, 1, 2);
+        // 2 twice, 0, 2 twice: 11, 10, 11; each pushes the other one out.
+        rowIs(x, "c?0b2", 3, 1, 2, 0, 1, 2);
+        rowIs(x, "c?0d2", 3, 1, 4, 0, 1, 4);
+    }
+
+    /** "- (nothing)": no LINE lies there by it. */
+    private static void rowOfNothingWithin() {
+        LongestRuns x = new LongestRuns();
+        for (int line = 0; line < 7; line++) {
+            rowIs(x, ";-?" + line + "7", 0);
+            rowIs(x, ";d-?7" + line, 0, 0);
+        }
     }
 
     private static void rowWithoutTheToldOne() {

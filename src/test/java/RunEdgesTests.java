@@ -47,6 +47,7 @@ public final class RunEdgesTests {
         rowByWhatLoopsCost();
         rowOfTextsWithin();
         rowOfNothingWithin();
+        rowInSetsWithoutRoom();
         rowWithoutTheToldOne();
         rowOfTwenty();
         rowOfTwentyOne();
@@ -562,6 +563,17 @@ public final class RunEdgesTests {
             rowIs(x, ";-?" + line + "7", 0);
             rowIs(x, ";d-?7" + line, 0, 0);
         }
+    }
+
+    /** All miss, so that no order costs more: the first by digits. */
+    private static void rowInSetsWithoutRoom() {
+        LongestRuns x = new LongestRuns();
+        x.shelf(HELD, 16 + 64);
+        rowIs(x, "d?02", 4, 0, 0, 0, 0);
+        rowIs(x, "?0;02", 1);
+        rowIs(x, "?;000", 0);
+        rowIs(x, "?44", 0);
+        rowIs(x, "?40", 1);
     }
 
     private static void rowWithoutTheToldOne() {

@@ -29,6 +29,7 @@ public final class TaskEdgesTests {
         breaksNothing();
         breaksByMiss();
         breaksLeavesHeldOnesOut();
+        breaksInSetsWithoutRoom();
         breaksMost();
         doneAtItsPeriod();
         doneIsCutUp();
@@ -362,6 +363,16 @@ public final class TaskEdgesTests {
         Check.write(x, 0, ";06");
         x.shelf(HELD, 1);
         Check.due("6 is its own, too", x.breaks(0, 1), 10);
+    }
+
+    /** LINES of a SET without ROOM are counted like others: the document leaves out HELD ones only. */
+    private static void breaksInSetsWithoutRoom() {
+        LongestRuns x = fourTasks("0", ";02");
+        x.shelf(HELD, 16 + 64);
+        Check.due("0 and 2", x.breaks(0, 1), 20);
+        Check.due("done", x.done(1), 20 + 10 + 20);
+        x.shelf(HELD, 4 + 64);
+        Check.due("0", x.breaks(0, 1), 10);
     }
 
     private static void breaksMost() {

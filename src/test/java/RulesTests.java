@@ -1,10 +1,20 @@
+import java.lang.reflect.Field;
+import java.lang.reflect.Method;
+import java.lang.reflect.Modifier;
 import java.nio.charset.StandardCharsets;
 import java.nio.file.Files;
 import java.nio.file.Path;
+import java.util.ArrayList;
+import java.util.List;
+import java.util.Set;
+import java.util.TreeSet;
 import java.util.regex.Matcher;
 import java.util.regex.Pattern;
 
-/** Rules of LANGUAGE.md that can be seen in the class's text: the first argument is its file. */
+/**
+ * Rules of LANGUAGE.md that can be seen in the class's text (the first argument is its file) or in
+ * its members.
+ */
 public final class RulesTests {
     private static final String[] FORBIDDEN = {"->", "::", "\\bpackage\\b", "\\bthrows\\b",
         "\\bfinally\\b", "\\bsynchronized\\b", "\\bassert\\b", "Exact\\b", "\\bprotected\\b",
@@ -36,7 +46,56 @@ public final class RulesTests {
             classes += code.matches(".*\\bclass \\w+ \\{$") ? 1 : 0;
         }
         Check.holds("classes: " + classes, classes >= 1 && classes <= 14);
+        members();
         Check.end();
+    }
+
+    private static void members() {
+        Set<String> face = new TreeSet<>();
+        for (Method method : LongestRuns.class.getDeclaredMethods()) {
+            if (Modifier.isPublic(method.getModifiers())) {
+                face.add(method.getName());
+            }
+        }
+        List<Class<?>> all = new ArrayList<>(List.of(LongestRuns.class));
+        for (int i = 0; i < all.size(); i++) {
+            all.addAll(List.of(all.get(i).getDeclaredClasses()));
+            membersOf(all.get(i), face);
+        }
+    }
+
+    /** Rules 1, 3 and 5. */
+    private static void membersOf(Class<?> type, Set<String> face) {
+        if (type != LongestRuns.class) {
+            int modifiers = type.getModifiers();
+            Check.holds(type + " is static", Modifier.isStatic(modifiers));
+            Check.holds(type + " is not to be seen from outside",
+                    !Modifier.isPublic(modifiers) && !Modifier.isProtected(modifiers));
+        }
+        for (Method method : type.getDeclaredMethods()) {
+            boolean isOfTheFace = type == LongestRuns.class && Modifier.isPublic(method.getModifiers());
+            Check.holds(method + " bears a name of the face",
+                    isOfTheFace || !face.contains(method.getName()));
+        }
+        int fields = 0;
+        for (Field field : type.getDeclaredFields()) {
+            if (Modifier.isStatic(field.getModifiers())) {
+                Check.holds(field + " is a constant", Modifier.isFinal(field.getModifiers())
+                        && field.getType() == int.class);
+            } else {
+                fields++;
+                Check.holds(field + " has a type that is told", isTold(field.getType()));
+            }
+        }
+        Check.holds(type + " has " + fields + " fields", fields <= 20);
+    }
+
+    /** Of those that the rules allow the class uses these. */
+    private static boolean isTold(Class<?> type) {
+        boolean isOwn = type.getName().startsWith("LongestRuns")
+                || type.isArray() && type.getComponentType().getName().startsWith("LongestRuns");
+        return isOwn || type == int.class || type == boolean.class || type == int[].class
+                || type == int[][].class;
     }
 
     /** Without comments: signs in quotes have none of the forbidden words. */
